@@ -518,7 +518,7 @@ public final class HangsTogether {
         }
 
         private boolean hasLane(int lane) {
-            return lane >= 0 && lane < lanes;
+            return lane >= 0 && lane < lanes && lane < MOST_LANES;
         }
 
         private boolean hasAll(int bits) {
@@ -564,7 +564,7 @@ public final class HangsTogether {
         /** The greatest house that a lane tells of; -1 without lanes. */
         private int farthestHouse() {
             int farthest = -1;
-            for (int i = 0; i < lanes; i++) {
+            for (int i = 0; i < lanes && i < MOST_LANES; i++) {
                 farthest = Math.max(farthest, Math.max(from[i], to[i]));
             }
             return farthest;
@@ -600,7 +600,7 @@ public final class HangsTogether {
 
         private int costOf(int set) {
             int together = 0;
-            for (int i = 0; i < lanes; i++) {
+            for (int i = 0; i < lanes && i < MOST_LANES; i++) {
                 if ((set >> i & 1) != 0) {
                     together += cost[i];
                 }
@@ -610,7 +610,7 @@ public final class HangsTogether {
 
         private int worthOf(int set) {
             int worth = 1;
-            for (int i = 0; i < lanes; i++) {
+            for (int i = 0; i < lanes && i < MOST_LANES; i++) {
                 if ((set >> i & 1) != 0) {
                     worth *= weight[i];
                 }
@@ -653,9 +653,8 @@ public final class HangsTogether {
         private static final int START = 0;
         private static final int DIGIT = 1;
         private static final int CLOSE = 2;
-        /** Ahead of a lane's kind, from, to, w: 3 .. 6; of its c's and d's first and second letters. */
+        /** Ahead of a lane's kind (3), from, to, w, c (7), and of what follows these digits. */
         private static final int KIND = 3;
-        private static final int COST = 7;
         private static final int COST_OR_COMMA = 8;
         private static final int COMMA = 9;
         private static final int DRIFT = 10;
@@ -697,7 +696,7 @@ public final class HangsTogether {
             }
             int told = 0;
             int start = 0;
-            for (int place = 0; place < size; place++) {
+            for (int place = 0; place < size && place < MOST_LETTERS; place++) {
                 if (letter[place] == ';') {
                     if (!tellOne(village, start, place)) {
                         return SENSE_FAULT - start;
@@ -712,7 +711,7 @@ public final class HangsTogether {
         /** The place of the first letter with which no village can go on; -1: there is none. */
         private int placeOfWrongForm() {
             int at = START;
-            for (int place = 0; place < size; place++) {
+            for (int place = 0; place < size && place < MOST_LETTERS; place++) {
                 at = after(at, letter[place]);
                 if (at == WRONG) {
                     return place;
@@ -812,7 +811,7 @@ public final class HangsTogether {
         }
 
         private int letterAt(int place) {
-            return place >= 0 && place < size ? letter[place] : 0;
+            return place >= 0 && place < size && place < MOST_LETTERS ? letter[place] : 0;
         }
     }
 
@@ -950,7 +949,7 @@ public final class HangsTogether {
             sorted = false;
             int sets = village.sets();
             for (int set = 0; set < sets && size < MOST_WAYS; set++) {
-                if (joins.isWay(set)) {
+                if (village.allows(set) && joins.leavesForest(set, 1)) {
                     bits[size] = set;
                     worth[size] = village.worthOf(set);
                     size++;
@@ -958,18 +957,27 @@ public final class HangsTogether {
             }
         }
 
-        private int at(int i) {
-            return i >= 0 && i < size ? bits[i] : NONE;
+        private boolean has(int i) {
+            return i >= 0 && i < size && i < MOST_WAYS;
         }
 
-        private int worthAt(int i) {
-            return i >= 0 && i < size ? worth[i] : 0;
+        private int at(int i) {
+            return has(i) ? bits[i] : NONE;
+        }
+
+        /** Copies all ways and their worths into rows of MOST_WAYS: how many. */
+        private int copyTo(int[] bitsRow, int[] worthRow) {
+            for (int i = 0; i < size && i < bitsRow.length && i < worthRow.length; i++) {
+                bitsRow[i] = bits[i];
+                worthRow[i] = worth[i];
+            }
+            return size;
         }
 
         /** The worths together of the ways that have all of these lanes (bits). */
         private long worthWith(int lanes) {
             long together = 0;
-            for (int i = 0; i < size; i++) {
+            for (int i = 0; i < size && i < MOST_WAYS; i++) {
                 if ((bits[i] & lanes) == lanes) {
                     together += worth[i];
                 }
@@ -979,7 +987,7 @@ public final class HangsTogether {
 
         private int lanesInAll() {
             int lanes = size == 0 ? 0 : village.allLanes();
-            for (int i = 0; i < size; i++) {
+            for (int i = 0; i < size && i < MOST_WAYS; i++) {
                 lanes &= bits[i];
             }
             return lanes;
@@ -987,7 +995,7 @@ public final class HangsTogether {
 
         private int lanesInNone() {
             int lanes = village.allLanes();
-            for (int i = 0; i < size; i++) {
+            for (int i = 0; i < size && i < MOST_WAYS; i++) {
                 lanes &= ~bits[i];
             }
             return lanes;
@@ -995,19 +1003,19 @@ public final class HangsTogether {
 
         private int bitsByCost(int i) {
             sortByCost();
-            return i >= 0 && i < size ? keys[i] % SETS : NONE;
+            return has(i) ? keys[i] % SETS : NONE;
         }
 
         private int costByCost(int i) {
             sortByCost();
-            return i >= 0 && i < size ? keys[i] / SETS : NONE;
+            return has(i) ? keys[i] / SETS : NONE;
         }
 
         private void sortByCost() {
             if (sorted) {
                 return;
             }
-            for (int i = 0; i < size; i++) {
+            for (int i = 0; i < size && i < MOST_WAYS; i++) {
                 keys[i] = village.costOf(bits[i]) * SETS + bits[i];
             }
             // Far ones first, so that few moves are left for the neighbours.
@@ -1020,7 +1028,7 @@ public final class HangsTogether {
 
         /** Puts the keys that stand so far apart into order, each row of them by itself. */
         private void sortEvery(int gap) {
-            for (int i = gap; i < size; i++) {
+            for (int i = gap; i < size && i < MOST_WAYS; i++) {
                 int key = keys[i];
                 int hole = i;
                 while (hole >= gap && keys[hole - gap] > key) {
@@ -1031,23 +1039,23 @@ public final class HangsTogether {
             }
         }
 
-        /** The way of most cost, of several the least as bits. */
+        /** The way of most cost, of several the least as bits: the first that is dearer than all ahead. */
         private int dearest() {
             sortByCost();
-            if (size == 0) {
-                return NONE;
+            int dearest = NONE;
+            int most = -1;
+            for (int i = 0; i < size && i < MOST_WAYS; i++) {
+                if (keys[i] / SETS > most) {
+                    most = keys[i] / SETS;
+                    dearest = keys[i] % SETS;
+                }
             }
-            int dearest = size - 1;
-            int most = keys[dearest] / SETS;
-            while (dearest > 0 && keys[dearest - 1] / SETS == most) {
-                dearest--;
-            }
-            return keys[dearest] % SETS;
+            return dearest;
         }
 
         /** The first way, as they rise, that differs by one lane given up and one of the other's. */
         private int stepBetween(int from, int to) {
-            for (int i = 0; i < size && from != to; i++) {
+            for (int i = 0; i < size && i < MOST_WAYS && from != to; i++) {
                 int given = from & ~bits[i];
                 int taken = bits[i] & ~from;
                 if (Integer.bitCount(given) == 1 && (given & to) == 0 && (taken & ~to) == 0) {
@@ -1059,7 +1067,7 @@ public final class HangsTogether {
 
         private int manyToward(int house) {
             int many = 0;
-            for (int i = 0; i < size; i++) {
+            for (int i = 0; i < size && i < MOST_WAYS; i++) {
                 if (leadsTo(house, bits[i])) {
                     many++;
                 }
@@ -1069,7 +1077,7 @@ public final class HangsTogether {
 
         private long worthToward(int house) {
             long together = 0;
-            for (int i = 0; i < size; i++) {
+            for (int i = 0; i < size && i < MOST_WAYS; i++) {
                 if (leadsTo(house, bits[i])) {
                     together += worth[i];
                 }
@@ -1305,7 +1313,7 @@ public final class HangsTogether {
 
         private int judged() {
             int ahead = 0;
-            for (int place = 0; place < size; place++) {
+            for (int place = 0; place < size && place < MOST_IN_ROW; place++) {
                 int lane = told[place];
                 if (!village.hasLane(lane) || village.ruleOf(lane) == BARRED) {
                     return place;
@@ -1322,7 +1330,7 @@ public final class HangsTogether {
         /** Its lanes as bits, if these are a way. */
         private int asWay() {
             int bits = 0;
-            for (int place = 0; place < size; place++) {
+            for (int place = 0; place < size && place < MOST_IN_ROW; place++) {
                 bits |= 1 << told[place];
             }
             return joins.isWay(bits) ? bits : NONE;
@@ -1346,8 +1354,9 @@ public final class HangsTogether {
         /** Of each house: the lanes that go on from it (bits), and their weights together. */
         private final int[] lanesOn;
         private final int[] weightOn;
-        /** The numbers of the ways that STEP has still left. */
+        /** The ways that STEP has still left (bits), and the worth of each. */
         private final int[] pool;
+        private final int[] poolWorth;
 
         private Drawers(Village village, Ways ways, Row told) {
             this.village = village;
@@ -1357,6 +1366,7 @@ public final class HangsTogether {
             lanesOn = new int[MOST_HOUSES];
             weightOn = new int[MOST_HOUSES];
             pool = new int[MOST_WAYS];
+            poolWorth = new int[MOST_WAYS];
         }
 
         private boolean isDrawer(int drawer) {
@@ -1451,37 +1461,34 @@ public final class HangsTogether {
 
         /** Once one way is left, each further lane is in all of those left or in none of them. */
         private int laneByLane() {
-            int left = ways.size;
-            int total = 0;
-            for (int i = 0; i < left && i < MOST_WAYS; i++) {
-                pool[i] = i;
-                total += ways.worthAt(i);
-            }
+            int left = ways.copyTo(pool, poolWorth);
+            int total = poolWorthWith(0, left);
             for (int lane = 0; lane < village.lanes && left > 1; lane++) {
-                int with = worthWith(lane, left);
+                int with = poolWorthWith(1 << lane, left);
                 boolean keep = with == total || with > 0 && below(total) < with;
-                left = narrow(lane, left, keep);
+                left = narrow(1 << lane, left, keep);
                 total = keep ? with : total - with;
             }
-            return left > 0 ? ways.at(pool[0]) : NONE;
+            return left > 0 ? pool[0] : NONE;
         }
 
-        private int worthWith(int lane, int left) {
+        private int poolWorthWith(int bit, int left) {
             int together = 0;
             for (int i = 0; i < left && i < MOST_WAYS; i++) {
-                if ((ways.at(pool[i]) >> lane & 1) != 0) {
-                    together += ways.worthAt(pool[i]);
+                if ((pool[i] & bit) == bit) {
+                    together += poolWorth[i];
                 }
             }
             return together;
         }
 
-        /** Leaves the ways that have a lane, or those that do not: how many. */
-        private int narrow(int lane, int left, boolean having) {
+        /** Leaves the ways that have a lane (a bit), or those that do not: how many. */
+        private int narrow(int bit, int left, boolean having) {
             int stay = 0;
             for (int i = 0; i < left && i < MOST_WAYS; i++) {
-                if ((ways.at(pool[i]) >> lane & 1) != 0 == having) {
+                if ((pool[i] & bit) == bit == having) {
                     pool[stay] = pool[i];
+                    poolWorth[stay] = poolWorth[i];
                     stay++;
                 }
             }
