@@ -1028,6 +1028,9 @@ public final class HangsTogether {
 
         /** Puts the keys that stand so far apart into order, each row of them by itself. */
         private void sortEvery(int gap) {
+            if (gap < 1) {
+                return;
+            }
             for (int i = gap; i < size && i < MOST_WAYS; i++) {
                 int key = keys[i];
                 int hole = i;
@@ -1087,7 +1090,7 @@ public final class HangsTogether {
 
         /**
          * In a way there is just one path from each house to the told one, so only its ONE lanes
-         * can be in the way: without such a lane its TO must still be together with that house.
+         * can hinder: without such a lane its TO must still be together with that house.
          */
         private boolean leadsTo(int house, int way) {
             for (int lane = 0; lane < village.lanes && lane < MOST_LANES; lane++) {
