@@ -32,7 +32,7 @@ public final class RandomRunsTest {
 
   private void go(int run) {
     tellVillage(2 + random.nextInt(6), random.nextInt(11), run % 4);
-    for (int step = 0; step < STEPS && !wrong && calls < 470; step++) {
+    for (int step = 0; step < STEPS && !wrong && calls < 420; step++) {
       change();
       ask();
     }
