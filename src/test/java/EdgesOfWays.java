@@ -396,6 +396,7 @@ final class EdgesOfWays {
     HangsTogether x = Due.of(TRIANGLE);
     Due.is("the last step", x.step(3, 6), 6);
     Due.is("the last step", x.step(6, 5), 5);
+    Due.is("the last step, to the first of all ways", x.step(6, 3), 3);
     Due.sentence(Due.TERMS, "the same, if they are alike");
     Due.is("alike", x.step(5, 5), 5);
     Due.is("alike", full.step(ODD, ODD), ODD);
