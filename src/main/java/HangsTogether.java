@@ -265,7 +265,7 @@ public final class HangsTogether {
         if (!isPart(part)) {
             return refuseLong(OTHER);
         }
-        long whole = woods.worthOfWhole(0);
+        long whole = woods.worthOfWhole();
         if (whole == 0) {
             return refuseLong(STATE);
         }
@@ -821,7 +821,8 @@ public final class HangsTogether {
      */
     private static final class Joins {
         /** A state has 3 bits a house (the least house of its part), the ring's bit, the parts. */
-        private static final int RING = 1 << 21;
+        private static final int RING_SHIFT = 21;
+        private static final int RING = 1 << RING_SHIFT;
         private static final int PARTS_SHIFT = 22;
 
         private final Village village;
@@ -876,9 +877,9 @@ public final class HangsTogether {
             return state >> 3 * house & 7;
         }
 
-        /** Whether a state has no ring and so many parts. */
+        /** Whether a state has no ring and so many parts, which stand just above the ring's bit. */
         private static boolean isForest(int state, int parts) {
-            return state >> 21 == parts << 1;
+            return state >> RING_SHIFT == parts << 1;
         }
 
         private int stateOf(int set) {
@@ -1138,19 +1139,19 @@ public final class HangsTogether {
             return many;
         }
 
-        /** Of the sets without a ring that join all houses and have all of these lanes (bits). */
-        private long worthOfWhole(int must) {
+        /** Of the sets without a ring that join all houses; what must be kept does not matter. */
+        private long worthOfWhole() {
             long together = 0;
             int sets = village.sets();
             for (int set = 0; set < sets; set++) {
-                if (isOpen(set, must) && joins.leavesForest(set, 1)) {
+                if (isOpen(set, 0) && joins.leavesForest(set, 1)) {
                     together += village.worthOf(set);
                 }
             }
             return together;
         }
 
-        /** Of those that leave two parts, with one of both houses in each. */
+        /** Of the sets with these lanes (bits) that leave two parts, one of both houses in each. */
         private long worthApart(int one, int other, int must) {
             long together = 0;
             int sets = village.sets();

@@ -4,7 +4,9 @@ import java.lang.reflect.Method;
 import java.lang.reflect.Modifier;
 import java.nio.file.Files;
 import java.nio.file.Path;
+import java.util.Map;
 import java.util.Set;
+import java.util.TreeMap;
 import java.util.TreeSet;
 import java.util.regex.Matcher;
 import java.util.regex.Pattern;
@@ -12,30 +14,19 @@ import java.util.regex.Pattern;
 /** What of ../shared/LANGUAGE.md can be seen by looking, and that a call makes no objects. */
 public final class LanguageTest {
   private static final Path SOURCE = Path.of("src/main/java/HangsTogether.java");
-  private static final String[] FACE = {
-      "public int feed(int letter)", "public int village()", "public int lane(int lane, int what)",
-      "public int rule(int lane, int as)", "public int takeUp()", "public int is(int lanes)",
-      "public int hangs(int lanes)", "public int parts(int lanes)", "public int many()",
-      "public long sum()", "public int way(int i)", "public long likely(int lane, int part)",
-      "public long pair(int one, int other, int part)", "public int less(int one, int other)",
-      "public int inAll()", "public int inNone()", "public int cheap(int i, int what)",
-      "public int nights(int from, int to)", "public int step(int from, int to)",
-      "public long toward(int house, int what)", "public int forests(int k)",
-      "public int ploughs(int houses)", "public long hard(int from, int to, int part)",
-      "public long more(int one, int other, int part)", "public long holds(int part)",
-      "public int plan(int k, int what)", "public int draw(int drawer, int z)",
-      "public int often(int drawer, int lane, int n, int z)", "public int row(int lane)",
-      "public int judge()", "public int image()", "public int restore()", "public int count(int what)"};
+  private static final Path DOCUMENT = Path.of("../shared/DOC.md");
+  private static final int MOST_DEEP = 8;
   private static int wrong = 0;
 
   public static void main(String[] args) throws Exception {
     String source = Files.readString(SOURCE);
-    face(source);
+    face(source, Files.readString(DOCUMENT));
     words(withoutComments(source));
     for (Class<?> inside : HangsTogether.class.getDeclaredClasses()) {
       members(inside);
     }
     methods(source);
+    calls(withoutComments(source));
     room();
     System.out.println(wrong == 0 ? "the language is kept" : wrong + " faults");
     if (wrong > 0) {
@@ -48,14 +39,27 @@ public final class LanguageTest {
     System.out.println(what);
   }
 
-  private static void face(String source) {
+  /** The face as the document tells it: each method's line without its ";", by the method's name. */
+  private static Map<String, String> promisedFace(String document) {
+    Map<String, String> face = new TreeMap<>();
+    Matcher lines = Pattern.compile("(?m)^    (public (?:int|long) (\\w+)\\([^)]*\\));$").matcher(document);
+    while (lines.find()) {
+      face.put(lines.group(2), lines.group(1));
+    }
+    return face;
+  }
+
+  private static void face(String source, String document) {
     Class<?> face = HangsTogether.class;
-    Set<String> names = new TreeSet<>();
-    for (String method : FACE) {
-      names.add(method.substring(method.lastIndexOf(' ', method.indexOf('(')) + 1, method.indexOf('(')));
-      if (!source.contains("    " + method + " {")) {
+    Map<String, String> promised = promisedFace(document);
+    Set<String> names = promised.keySet();
+    for (String method : promised.values()) {
+      if (!source.contains("\n    " + method + " {")) {
         fault("lacks: " + method);
       }
+    }
+    if (!Modifier.isPublic(face.getModifiers()) || !Modifier.isFinal(face.getModifiers())) {
+      fault("the class is not public and final");
     }
     int open = 0;
     for (Method method : face.getDeclaredMethods()) {
@@ -65,7 +69,7 @@ public final class LanguageTest {
         fault("a private method bears the name of a public one: " + method);
       }
     }
-    if (open != FACE.length) {
+    if (open != promised.size() || open != 33) {
       fault("the face has " + open + " methods");
     }
     for (Field field : face.getDeclaredFields()) {
@@ -158,6 +162,61 @@ public final class LanguageTest {
     }
     if (seen < 100) {
       fault("only " + seen + " methods were measured");
+    }
+  }
+
+  /**
+   * Which methods call which, by their names alone: methods of the same name in several classes are
+   * taken as one, so that a chain can only come out longer than it is.
+   */
+  private static void calls(String code) {
+    Map<String, Set<String>> called = new TreeMap<>();
+    Matcher heads = Pattern.compile("(?m)^( {4}| {8})(?:public|private) [^=;\n]*?(\\w+)\\([^)]*\\) \\{$").matcher(code);
+    while (heads.find()) {
+      String body = code.substring(heads.end(), code.indexOf("\n" + heads.group(1) + "}", heads.end()));
+      Set<String> names = called.computeIfAbsent(heads.group(2), name -> new TreeSet<>());
+      Matcher calls = Pattern.compile("\\b(\\w+)\\(").matcher(body.replaceAll("\\b(Math|Integer)\\.\\w+", ""));
+      while (calls.find()) {
+        names.add(calls.group(1));
+      }
+    }
+    if (called.size() < 100) {
+      fault("only " + called.size() + " methods were looked at");
+    }
+    Set<String> used = new TreeSet<>();
+    for (Set<String> names : called.values()) {
+      used.addAll(names);
+    }
+    for (String name : called.keySet()) {
+      int deep = deep(name, called, 0);
+      if (deep > MOST_DEEP) {
+        fault("calls go " + deep + " deep from " + name);
+      }
+    }
+    for (Class<?> inside : HangsTogether.class.getDeclaredClasses()) {
+      unused(inside, used);
+    }
+    unused(HangsTogether.class, used);
+  }
+
+  /** How many calls stand open at once below a method, itself too. */
+  private static int deep(String name, Map<String, Set<String>> called, int above) {
+    int deepest = 0;
+    if (above <= 2 * MOST_DEEP) {
+      for (String next : called.getOrDefault(name, Set.of())) {
+        if (called.containsKey(next)) {
+          deepest = Math.max(deepest, deep(next, called, above + 1));
+        }
+      }
+    }
+    return 1 + deepest;
+  }
+
+  private static void unused(Class<?> one, Set<String> used) {
+    for (Method method : one.getDeclaredMethods()) {
+      if (!Modifier.isPublic(method.getModifiers()) && !used.contains(method.getName())) {
+        fault("nobody calls " + method);
+      }
     }
   }
 
